@@ -526,7 +526,8 @@ public final class MachPortRights {
 
     private boolean holdsNotice(int port) {
         int first = port * QUEUE_ROOM;
-        for (int pos = 0; pos < lengths[port]; pos++) {
+        int count = lengths[port];
+        for (int pos = 0; pos < count; pos++) {
             if (messageKinds[first + pos] == KIND_NOTICE) {
                 return true;
             }
@@ -548,9 +549,10 @@ public final class MachPortRights {
     }
 
     private void removeHead(int port) {
-        lengths[port]--;
         int first = port * QUEUE_ROOM;
-        for (int pos = 0; pos < lengths[port]; pos++) {
+        int left = lengths[port] - 1;
+        lengths[port] = left;
+        for (int pos = 0; pos < left; pos++) {
             int cell = first + pos;
             messageIds[cell] = messageIds[cell + 1];
             messageKinds[cell] = messageKinds[cell + 1];
