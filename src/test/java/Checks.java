@@ -1,4 +1,8 @@
+import java.util.LinkedHashMap;
+import java.util.Map;
 import java.util.function.IntSupplier;
+import java.util.function.Supplier;
+import java.util.function.ToIntFunction;
 
 /** What the tests share: the document's constants as it writes them, and the ways to compare. */
 abstract class Checks {
@@ -49,6 +53,47 @@ abstract class Checks {
         due("the state after " + call, seen(x), before);
     }
 
+    /**
+     * A call that must answer this and change nothing, not even what no getter tells: the object must go on as
+     * a twin does on which the call was never made.
+     */
+    static void refused(Supplier<MachPortRights> state, String call, ToIntFunction<MachPortRights> made, int want) {
+        MachPortRights x = state.get();
+        MachPortRights twin = state.get();
+        due(call, made.applyAsInt(x), want);
+        due("the state after " + call, seen(x), seen(twin));
+        due("what follows " + call, goOn(x), goOn(twin));
+    }
+
+    /** The answers of a fixed row of calls, which tell the id counter, the ports left and who holds whom. */
+    static String goOn(MachPortRights x) {
+        StringBuilder text = new StringBuilder();
+        for (int task = 0; task < 4; task++) {
+            for (int name = 1; name <= 8; name++) {
+                text.append(' ').append(x.requestNoSenders(task, name));
+                text.append(' ').append(x.send(task, name, 0, DISP_NONE));
+            }
+        }
+        for (int task = 0; task < 4; task++) {
+            for (int name = 1; name <= 8; name++) {
+                text.append(' ').append(x.receive(task, name));
+                for (int carry = 1; carry <= 8; carry++) {
+                    text.append(' ').append(x.send(task, name, carry, MOVE_RECEIVE));
+                }
+            }
+            text.append(' ').append(x.allocate(task));
+        }
+        text.append(' ').append(seen(x));
+        for (int task = 0; task < 4; task++) {
+            for (int name = 1; name <= 8; name++) {
+                text.append(' ').append(x.destroyReceive(task, name));
+                text.append(' ').append(x.allocate(task));
+                text.append(' ').append(x.requestNoSenders(task, name));
+            }
+        }
+        return text.append(' ').append(seen(x)).toString();
+    }
+
     static void dueName(MachPortRights x, int task, int name, int type, int port) {
         due("nameType(" + task + ", " + name + ")", x.nameType(task, name), type);
         due("namePort(" + task + ", " + name + ")", x.namePort(task, name), port);
@@ -97,6 +142,55 @@ abstract class Checks {
             text.append(' ').append(x.lastReceived(field));
         }
         return text.toString();
+    }
+
+    /** A call on a new object of that state that must answer this and change these getters' answers, no others. */
+    static void changed(Supplier<MachPortRights> state, String call, ToIntFunction<MachPortRights> made, int want,
+            String... changes) {
+        MachPortRights x = state.get();
+        Map<String, Object> before = getters(x);
+        due(call, made.applyAsInt(x), want);
+        Map<String, Object> after = getters(x);
+        for (String change : changes) {
+            String getter = change.substring(0, change.indexOf(" = "));
+            String value = change.substring(change.indexOf(" = ") + 3);
+            due("after " + call + ", " + getter, String.valueOf(after.get(getter)), value);
+            boolean was = String.valueOf(before.get(getter)).equals(value);
+            due("before " + call + ", " + getter + " was " + value, was, false);
+            before.remove(getter);
+        }
+        for (Map.Entry<String, Object> kept : before.entrySet()) {
+            due("after " + call + ", " + kept.getKey(), after.get(kept.getKey()), kept.getValue());
+        }
+    }
+
+    /** Each getter's call, a little beyond every range, with its answer. */
+    private static Map<String, Object> getters(MachPortRights x) {
+        Map<String, Object> answers = new LinkedHashMap<>();
+        for (int task = -1; task <= 4; task++) {
+            for (int name = -1; name <= 9; name++) {
+                String at = "(" + task + ", " + name + ")";
+                answers.put("nameType" + at, x.nameType(task, name));
+                answers.put("namePort" + at, x.namePort(task, name));
+            }
+        }
+        for (int port = -1; port <= 16; port++) {
+            String at = "(" + port + ")";
+            answers.put("portState" + at, x.portState(port));
+            answers.put("sendRights" + at, x.sendRights(port));
+            answers.put("sendOnceRights" + at, x.sendOnceRights(port));
+            answers.put("queueLength" + at, x.queueLength(port));
+            answers.put("isArmed" + at, x.isArmed(port));
+            for (int pos = -1; pos <= 9; pos++) {
+                for (int field = -1; field <= 3; field++) {
+                    answers.put("queueAt(" + port + ", " + pos + ", " + field + ")", x.queueAt(port, pos, field));
+                }
+            }
+        }
+        for (int field = -1; field <= 4; field++) {
+            answers.put("lastReceived(" + field + ")", x.lastReceived(field));
+        }
+        return answers;
     }
 
     static int wrongSoFar() {

@@ -3,6 +3,10 @@ final class ConstructionTest extends Checks {
     public static void main(String[] args) {
         sizesAreClamped();
         startIsEmpty();
+        recordAtTheStart();
+        counterAtTheStart();
+        objectsAreApart();
+        anySizesGoOn();
         end();
     }
 
@@ -54,23 +58,70 @@ final class ConstructionTest extends Checks {
         return count;
     }
 
+    /** "At the start all names of all tasks are free, no port is allocated": at every size, and beyond it. */
     private static void startIsEmpty() {
-        MachPortRights x = new MachPortRights(4, 16, 8, 8);
-        for (int task = 0; task < 4; task++) {
-            for (int name = 1; name <= 8; name++) {
-                dueName(x, task, name, 0, -1);
+        int[][] sizes = {{2, 4, 4, 2}, {3, 9, 5, 4}, {4, 16, 8, 8}, {-1, -1, -1, -1}, {99, 99, 99, 99}};
+        for (int[] size : sizes) {
+            MachPortRights x = new MachPortRights(size[0], size[1], size[2], size[3]);
+            for (int task = -1; task <= 4; task++) {
+                for (int name = -1; name <= 9; name++) {
+                    dueName(x, task, name, 0, -1);
+                }
+            }
+            for (int port = -1; port <= 16; port++) {
+                duePort(x, port, PORT_NONE, 0, 0);
+                due("isArmed(" + port + ")", x.isArmed(port), false);
+                due("queueLength(" + port + ")", x.queueLength(port), 0);
+                dueMessage(x, port, 0, -1, -1, -1);
             }
         }
-        for (int port = 0; port < 16; port++) {
-            duePort(x, port, PORT_NONE, 0, 0);
-            due("isArmed(" + port + ")", x.isArmed(port), false);
-            due("queueLength(" + port + ")", x.queueLength(port), 0);
-        }
+    }
+
+    /** "the last-received record is (0, KIND_NONE, 0, -1)", also where the first receive is refused. */
+    private static void recordAtTheStart() {
+        MachPortRights x = new MachPortRights(2, 4, 4, 2);
         dueRecord(x, 0, KIND_NONE, 0, -1);
         x.allocate(0);
+        due("receive(0, 1)", x.receive(0, 1), ERR_EMPTY);
+        dueRecord(x, 0, KIND_NONE, 0, -1);
+    }
+
+    /** "the id counter is 0": the first message gets 1. */
+    private static void counterAtTheStart() {
+        MachPortRights x = new MachPortRights(4, 16, 8, 8);
+        x.allocate(0);
         due("requestNoSenders(0, 1), the first message", x.requestNoSenders(0, 1), 1);
+        x.giveSend(0, 1, 1);
+        due("send(1, 1, 0, 0), the second", x.send(1, 1, 0, DISP_NONE), 2);
+    }
+
+    private static void objectsAreApart() {
+        MachPortRights x = new MachPortRights(4, 16, 8, 8);
+        x.allocate(0);
+        x.requestNoSenders(0, 1);
+        x.receive(0, 1);
         MachPortRights other = new MachPortRights(4, 16, 8, 8);
+        dueRecord(other, 0, KIND_NONE, 0, -1);
         due("allocate(0) of another object", other.allocate(0), 1);
+        due("namePort(0, 1) of another object", other.namePort(0, 1), 0);
         due("queueLength(0) of another object", other.queueLength(0), 0);
+        due("requestNoSenders(0, 1) of another object", other.requestNoSenders(0, 1), 1);
+    }
+
+    /** "accepts any int values": no sizes make a call throw or fail to end. */
+    private static void anySizesGoOn() {
+        int[] sizes = {Integer.MIN_VALUE, -1, 0, 3, 7, 17, Integer.MAX_VALUE};
+        for (int tasks : sizes) {
+            for (int ports : sizes) {
+                for (int names : sizes) {
+                    for (int queue : sizes) {
+                        String same = goOn(new MachPortRights(tasks, ports, names, queue));
+                        MachPortRights clamped = new MachPortRights(
+                            between(tasks, 2, 4), between(ports, 4, 16), between(names, 4, 8), between(queue, 2, 8));
+                        due("clamped sizes go on as the others", goOn(clamped), same);
+                    }
+                }
+            }
+        }
     }
 }

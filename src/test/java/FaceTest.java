@@ -80,7 +80,8 @@ final class FaceTest extends Checks {
         for (Field field : MachPortRights.class.getDeclaredFields()) {
             if (Modifier.isStatic(field.getModifiers())) {
                 due(field.getName() + " is final", Modifier.isFinal(field.getModifiers()), true);
-                due(field.getName() + " is int or long", field.getType() == int.class || field.getType() == long.class, true);
+                boolean whole = field.getType() == int.class || field.getType() == long.class;
+                due(field.getName() + " is int or long", whole, true);
             }
         }
     }
