@@ -2,6 +2,7 @@
 final class DeathRuleTest extends Checks {
     public static void main(String[] args) {
         everyNameOfEveryTask();
+        everyNameAtEverySize();
         namesOfOthersStay();
         allOfThePortEnds();
         sendRightsAreReleased();
@@ -48,6 +49,33 @@ final class DeathRuleTest extends Checks {
             dueName(x, 3, 3, DEAD, 0);
             dueName(x, 2, 2, DEAD, 0);
             duePort(x, 0, PORT_DEAD, 0, 0);
+        }
+    }
+
+    /** The same where every name there is, but one in each task to receive by, denotes the port. */
+    private static void everyNameAtEverySize() {
+        for (int tasks = 2; tasks <= 4; tasks++) {
+            for (int names = 4; names <= 8; names++) {
+                MachPortRights x = new MachPortRights(tasks, 16, names, 2);
+                x.allocate(0);
+                for (int task = tasks - 1; task >= 0; task--) {
+                    x.giveSend(0, 1, task);
+                    x.allocate(task);
+                    for (int name = 3; name <= names; name++) {
+                        x.giveSend(task, 2, 0);
+                        x.send(0, 2, 1, MAKE_SEND_ONCE);
+                        x.deallocate(0, 2);
+                        x.receive(task, 2);
+                    }
+                }
+                duePort(x, 0, PORT_HELD, tasks, tasks * (names - 2));
+                due("destroyReceive(0, 1)", x.destroyReceive(0, 1), 1);
+                for (int task = 0; task < tasks; task++) {
+                    for (int name = 1; name <= names; name++) {
+                        dueName(x, task, name, name == 2 ? RECEIVE : DEAD, name == 2 ? tasks - task : 0);
+                    }
+                }
+            }
         }
     }
 
@@ -175,21 +203,24 @@ final class DeathRuleTest extends Checks {
     }
 
     /**
-     * "a first-in-first-out worklist": port 0 holds 1 and 2, port 1 holds 3; 2 and 3 have the last send rights
-     * for 4 and 5, and 2 must die before 3.
+     * "a first-in-first-out worklist": port 0 holds 1 and 2, port 1 holds 3; the ports 1, 2 and 3 must die in this
+     * order, and each has the last send right for one of the ports 4, 5 and 6, whose notices tell it.
      */
     private static void worklistIsFirstInFirstOut() {
         MachPortRights x = sixPorts();
-        x.send(0, 4, 6, MOVE_SEND);
-        x.send(0, 3, 5, MOVE_SEND);
-        x.requestNoSenders(0, 5);
-        x.requestNoSenders(0, 6);
+        x.allocate(0);
+        x.giveSend(0, 7, 0);
+        for (int name = 2; name <= 4; name++) {
+            x.requestNoSenders(0, name + 3);
+            due("send of a last send right", x.send(0, name, name + 3, MOVE_SEND), name - 1);
+        }
         x.send(0, 2, 4, MOVE_RECEIVE);
         x.send(0, 1, 2, MOVE_RECEIVE);
         x.send(0, 1, 3, MOVE_RECEIVE);
         due("destroyReceive(0, 1)", x.destroyReceive(0, 1), 4);
-        dueMessage(x, 4, 0, 6, KIND_NOTICE, -1);
-        dueMessage(x, 5, 0, 7, KIND_NOTICE, -1);
+        dueMessage(x, 4, 0, 7, KIND_NOTICE, -1);
+        dueMessage(x, 5, 0, 8, KIND_NOTICE, -1);
+        dueMessage(x, 6, 0, 9, KIND_NOTICE, -1);
     }
 
     /** "y's messages are removed head first": the notices that come of it get their ids in that order. */
